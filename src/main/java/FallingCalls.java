@@ -901,7 +901,9 @@ public final class FallingCalls {
     private static final class Graphs {
         static final int CODES = 81;
         static final int PLACES = MOST_FUNCTIONS * MOST_FUNCTIONS * CODES;
-        private static final int ROWS_FIRST = 0x33;
+
+        /** The bits of value 0: those of value 1 are two places on. */
+        private static final int ROW_BITS = 0x33;
 
         /** For each four bits the sum of 3 to the power of each bit's place. */
         private static final int[] POWERS = {0, 1, 3, 4, 9, 10, 12, 13, 27, 28, 30, 31, 36, 37, 39, 40};
@@ -928,9 +930,9 @@ public final class FallingCalls {
                 for (int m = 0; m < MOST_ARITY; m++) {
                     int way = first >> 2 * i + m;
                     if ((way & 1) != 0) {
-                        int row = second >> 2 * m & ROWS_FIRST;
+                        int row = second >> 2 * m & ROW_BITS;
                         if ((way & 16) != 0) {
-                            row |= row << 4 & ROWS_FIRST;
+                            row |= row << 4 & ROW_BITS;
                         }
                         made |= row << 2 * i;
                     }
@@ -965,7 +967,10 @@ public final class FallingCalls {
             Arrays.fill(comesTo, 0);
         }
 
-        /** Which graph it is; a new one came by a graph (or -1) and a call behind it. */
+        /**
+         * Which graph it is; a new one came by a graph (or -1) and a call behind
+         * it. Each has a place of its own, so there are never more than PLACES.
+         */
         private int meet(int f, int t, int relations, int by, int c) {
             int place = placeOf(f, t, codeOf(relations));
             if (found[place] >= 0) {

@@ -13,6 +13,7 @@ public final class PromiseTests {
     promise04Text();
     promise04Faults();
     promise04WhatStays();
+    promise04FullTape();
     promise05Fault();
     promise06Rule();
     promise07Fun();
@@ -129,6 +130,8 @@ public final class PromiseTests {
     due("4: arity", x.fun(1, 0), 1);
     due("4: less 3", x.set(0, 0, 0), 113);
     argument("fun 2;fun 1;call 0 1 7;", 7);
+    argument("fun 2;fun 1;call 0 1 9;", 9);
+    argument("fun 2;fun 1;call 0 1 00;", 0);
     argument("fun 2;fun 1;call 0 1 a;", 100);
     argument("fun 2;fun 1;call 0 1 b;", 110);
     argument("fun 2;fun 1;call 0 1 b - 9;", 119);
@@ -162,6 +165,12 @@ public final class PromiseTests {
     faulty("fun 1", 2, 5);
     faulty("fun 1 fun", 2, 6);
     faulty("fun 1;foo", 2, 6);
+    faulty("zoo", 2, 0);
+    faulty("fun 1;call 0 0 09 10;", 2, 18);
+    faulty("fun 1;call 0 0 1{", 1, 16);
+    faulty("`", 1, 0);
+    faulty("/fun", 2, 0);
+    faulty(":", 1, 0);
     faulty("funcall", 2, 0);
     faulty("a", 2, 0);
     faulty("fun a;", 2, 4);
@@ -200,11 +209,14 @@ public final class PromiseTests {
     StringBuilder calls = new StringBuilder("fun 1;");
     for (int i = 0; i < 12; i++) calls.append("call 0 0 1;");
     faulty(calls + "call 7", 5, calls.length());
+    faulty("fun 1;fun 1;" + calls + "a", 2, calls.length() + 12);
+    faulty("fun 1;fun 1;" + calls + "fun", 5, calls.length() + 12);
     faulty(calls + "fan", 2, calls.length());
   }
 
   private static void promise04WhatStays() {
     FallingCalls x = told("fun 2;call 0 0 a b;");
+    x.keep(0);
     x.keep(1);
     x.sheet(0, 0, 2);
     feed(x, "fun 1;fun 1;call 0 1 b;");
@@ -213,7 +225,8 @@ public final class PromiseTests {
     due("4: what was told stays", x.fun(0, 0), 2);
     due("4: calls stay", x.rule(1), 1);
     due("4: graphs stay", x.call(0, 2), 28);
-    due("4: images stay", x.count(0), 1);
+    due("4: images stay", x.count(0), 2);
+    due("4: graphs are asked", x.rule(2), 1);
     feed(x, "fun 1;");
     due("4: taken", x.text(), 1);
     due("4: calls are gone", x.rule(1), 0);
@@ -223,6 +236,22 @@ public final class PromiseTests {
     due("4: sheets stay", x.count(3), 2);
     due("4: empty is taken", x.text(), 0);
     due("4: no function", x.rule(0), 0);
+  }
+
+  /** Tapes of 160 bytes, whose last is one of each sort. */
+  private static void promise04FullTape() {
+    String[] lasts = {" ", ";", "z", "12", "?"};
+    int[] lines = {1, -169, -169, -168, -169};
+    for (int i = 0; i < lasts.length; i++) {
+      StringBuilder text = new StringBuilder("fun 1;");
+      while (text.length() + lasts[i].length() < 160) text.append(' ');
+      FallingCalls x = new FallingCalls();
+      feed(x, text + lasts[i]);
+      due("4: full, last " + lasts[i], x.text(), lines[i]);
+    }
+    StringBuilder open = new StringBuilder("fun 1");
+    while (open.length() < 160) open.append(' ');
+    faulty(open.toString(), 2, 160);
   }
 
   private static void promise05Fault() {
@@ -259,6 +288,7 @@ public final class PromiseTests {
     due("6: no calls end", told("fun 1;").rule(5), 1);
     x = told("fun 1;call 0 0 a-1;call 0 0 a;");
     due("6: needless", x.rule(7), 1);
+    due("6: the first is idle", told("fun 1;call 0 0 a;").rule(3), 1);
     due("6: not idle of two", told("fun 1;fun 1;call 0 1 a;call 1 0 a;").rule(3), 2);
     x = told("fun 1;call 0 0 a-1;call 0 0 a/2;call 0 0 a-9;");
     due("6: each once", x.rule(2), 1);
@@ -282,6 +312,7 @@ public final class PromiseTests {
     due("7: 1 alone", x.fun(1, 2), 1);
     due("7: 1 ends", x.fun(1, 3), 1);
     due("7: 0 does not", x.fun(0, 3), 0);
+    due("7: the first graph is a loop", told("fun 1;call 0 0 a;").fun(0, 3), 0);
     due("7: one that calls none comes to none", told("fun 1;").fun(0, 4), 0);
   }
 
@@ -406,6 +437,12 @@ public final class PromiseTests {
     due("15: three", x.rule(0), 3);
     due("15: arity", x.fun(1, 0), 2);
     due("15: component", x.fun(2, 2), 2);
+    x = told("fun 1;call 0 0 a;");
+    due("15: graphs are asked", x.rule(6), 1);
+    x.open(1);
+    due("15: one component more", x.rule(6), 2);
+    due("15: it ends", x.fun(1, 3), 1);
+    due("15: the other does not", x.rule(5), 0);
   }
 
   private static void promise16Add() {
@@ -422,11 +459,21 @@ public final class PromiseTests {
     due("16: BAD before FULL", x.add(0, 2), BAD);
     due("16: a number", x.argument(11, 1, 0), 0);
     due("16: 0", x.argument(11, 1, 2), 0);
-    due("16: one graph", x.rule(2), 1);
+    due("16: the first is a number, too", x.set(11, 0, 100), 0);
+    due("16: two graphs", x.rule(2), 2);
+    x.cut(11);
+    x.add(0, 0);
+    due("16: another one is seen", x.rule(2), 2);
+    x.set(11, 0, 101);
     x.set(11, 1, 101);
     x.cut(11);
+    due("16: graphs are asked", x.rule(2), 1);
+    x.add(0, 1);
+    due("16: they follow", x.rule(2), 4);
+    due("16: 0 again", x.argument(11, 0, 0), 0);
+    x.cut(11);
     x.add(1, 0);
-    due("16: 0 again", x.argument(11, 1, 0), 0);
+    due("16: 0 in both", x.set(11, 0, 5) + x.set(11, 1, 5), 0);
   }
 
   private static void promise17Cut() {
@@ -470,6 +517,10 @@ public final class PromiseTests {
   private static void promise19Spare() {
     due("19: all end", told("fun 1;call 0 0 a-1;").spare(), NONE);
     due("19: the one", told("fun 1;call 0 0 a-1;call 0 0 a;").spare(), 1);
+    due("19: the 0th", told("fun 1;call 0 0 a;").spare(), 0);
+    due("19: those behind it stay as they are", told("fun 2;call 0 0 1 1;call 0 0 a-1 b;call 0 0 a b-1;call 0 0 1 b-1;").spare(), 0);
+    due("19: each of those behind", told("fun 2;fun 1;call 0 0 a b;call 0 1 a;call 1 0 1 a-1;call 1 0 2 a-1;call 0 1 b;").spare(), NONE);
+    due("19: a function each", told("fun 1;fun 1;call 0 0 a;call 1 1 a;").spare(), NONE);
     due("19: two that loop", told("fun 1;call 0 0 a;call 0 0 a;").spare(), NONE);
     FallingCalls x = told("fun 1;fun 1;call 0 0 a-1;call 0 1 a;call 1 0 a;");
     due("19: the first of several", x.spare(), 1);
@@ -486,6 +537,7 @@ public final class PromiseTests {
     due("20: the least", x.mend(), 0);
     due("20: nothing is changed", x.argument(0, 0, 2), 0);
     due("20: graphs neither", x.rule(4), 1);
+    due("20: a call that the first loop lacks", told("fun 1;fun 1;call 0 0 a;call 1 1 a;").mend(), NONE);
     due("20: by b to b", told("fun 2;call 0 0 1 b-1;call 0 0 1 b+1;").mend(), 111);
     due("20: crosswise", told("fun 2;call 0 0 b 1;").mend(), 0);
     due("20: b to a", told("fun 2;fun 1;call 0 1 1;call 1 0 1 a;").mend(), 1);
@@ -496,6 +548,7 @@ public final class PromiseTests {
     FallingCalls x = told("fun 1;call 0 0 a;call 0 0 1;");
     due("21: loops in all", x.rule(4), 2);
     due("21: but one is needless", x.loops(), 1);
+    due("21: the first one", told("fun 1;call 0 0 a;").loops(), 1);
     due("21: one in each", told("fun 1;fun 1;call 0 0 a;call 1 1 a;").loops(), 2);
   }
 
@@ -563,6 +616,7 @@ public final class PromiseTests {
   private static void promise24Back() {
     FallingCalls x = told("fun 2;call 0 0 a&b b-1;call 0 0 1 2;");
     due("24: none", x.back(1), STATE);
+    int graphs = x.rule(2);
     due("24: 2", x.back(2), BAD);
     due("24: -1", x.back(-1), BAD);
     x.keep(1);
@@ -570,7 +624,9 @@ public final class PromiseTests {
     x.set(0, 1, 310);
     x.cut(1);
     x.keep(0);
+    due("24: graphs are asked", x.rule(2), 1);
     due("24: back", x.back(1), 2);
+    due("24: graphs are as they were", x.rule(2), graphs);
     due("24: functions", x.rule(0), 1);
     due("24: argument", x.argument(0, 1, 0), 1);
     due("24: graphs", x.call(0, 2), 64);
@@ -665,7 +721,9 @@ public final class PromiseTests {
     due("27: the 2nd is refused", x.read(1, 2, 0, 4), -22);
     due("27: none came", x.argument(0, 0, 0), 3);
     due("27: none at all", x.argument(1, 0, 0), 1);
+    due("27: graphs are asked", x.call(1, 3), 1);
     due("27: ahead of it", x.read(1, 2, 0, 2), 2);
+    due("27: graphs follow", x.graph(1, 2), 6);
     due("27: came", x.argument(0, 0, 2), 7);
     due("27: a cut one is not looked at", x.read(1, 2, 9, 1), 0);
     due("27: f -1", x.read(1, 2, -1, 1), 0);
@@ -714,6 +772,12 @@ public final class PromiseTests {
     for (int g = 0; g < x.rule(2); g++) sum += x.graph(g, 2);
     due("29: codes", x.count(5), sum);
     due("29: codes by hand", told("fun 2;call 0 0 b-1 a;").count(5), 21 + 56 + 24);
+    due("29: three arities", told("fun 2;fun 1;fun 2;").count(4), 5);
+    feed(x, "zz");
+    x.end(0);
+    feed(x, "fun 1;");
+    x.text();
+    due("29: one arity", x.count(4), 1);
     due("29: 6", x.count(6), BAD);
     due("29: -1", x.count(-1), BAD);
   }
