@@ -1,11 +1,5 @@
 /** For each promise of the document: ordinary inputs, edges and wrong inputs, by hand. */
-public final class PromiseTests {
-  private static final int BAD = FallingCalls.BAD, STATE = FallingCalls.STATE;
-  private static final int FULL = FallingCalls.FULL, NONE = FallingCalls.NONE;
-  private static final int LEAST = Integer.MIN_VALUE, MOST = Integer.MAX_VALUE;
-
-  private static int wrong = 0;
-
+public final class PromiseTests extends Checks {
   public static void main(String[] args) {
     promise01New();
     promise02Feed();
@@ -39,34 +33,7 @@ public final class PromiseTests {
     promise27Read();
     promise28Torn();
     promise29Count();
-    System.out.println(wrong == 0 ? "PromiseTests: all as due" : "PromiseTests: " + wrong + " not as due");
-    if (wrong != 0) System.exit(1);
-  }
-
-  private static void due(String what, int got, int want) {
-    if (got == want) return;
-    wrong++;
-    System.out.println(what + " answered " + got + ", due is " + want);
-  }
-
-  private static void feed(FallingCalls x, String text) {
-    for (int i = 0; i < text.length(); i++) x.feed(text.charAt(i));
-  }
-
-  private static FallingCalls told(String text) {
-    FallingCalls x = new FallingCalls();
-    feed(x, text);
-    int lines = x.text();
-    if (lines < 0) due("text of " + text, lines, 0);
-    return x;
-  }
-
-  private static void faulty(String text, int fault, int place) {
-    FallingCalls x = new FallingCalls();
-    feed(x, text);
-    due("text() of " + text, x.text(), -10 - place);
-    due("fault() of " + text, x.fault(), fault);
-    due("functions after " + text, x.rule(0), 0);
+    conclude("PromiseTests");
   }
 
   /** What argument 0 of the only call of a text is, told as by set(). */
@@ -692,11 +659,6 @@ public final class PromiseTests {
     due("26: an int is whole", x.read(2, 2, 0, 1), -20);
     x.sheet(2, 2, 0);
     due("26: no cells", x.lay(2, 0, 0), -12);
-  }
-
-  private static void cells(FallingCalls x, int k, int... all) {
-    x.sheet(k, 2, all.length);
-    for (int i = 0; i < all.length; i++) x.lay(k, i, all[i]);
   }
 
   private static void promise27Read() {
