@@ -182,7 +182,12 @@ public final class PromiseBoundaryTests extends Checks {
     due("to none", x.fun(2, 4), 0);
     put(x, 2, 0, 100);
     due("to all, itself too", x.fun(1, 4), 7);
-    due("no calls from it", told("fun 1;").fun(0, 1), 0);
+    says("1 how many CALLS are from it");
+    due("none", told("fun 1;").fun(0, 1), 0);
+    due("one to another", told("fun 1;fun 1;call 0 1 a;").fun(0, 1), 1);
+    due("none from another", told("fun 1;fun 1;call 0 1 a;").fun(1, 1), 0);
+    due("twelve", told("fun 1;" + times(12, "call 0 0 a;")).fun(0, 1), 12);
+    says("Of a FUNCTION: 0 ARITY");
     due("no function 3", x.fun(3, 0), BAD);
     due("what -1", x.fun(0, -1), BAD);
     due("what 5", x.fun(2, 5), BAD);
@@ -379,6 +384,11 @@ public final class PromiseBoundaryTests extends Checks {
     due("again", x.add(0, 0), 12);
     for (int k = 0; k < 2; k++) due("it is 0 again", x.set(11, k, 1), 0);
     due("full by a text", told("fun 1;" + times(12, "call 0 0 a;")).add(0, 0), FULL);
+    x = told("fun 1;call 0 0 a-1;");
+    due("graphs before", x.rule(2), 1);
+    x.add(0, 0);
+    due("graphs behind", x.rule(2), 2);
+    due("it does not end", x.rule(5), 0);
   }
 
   private static void cutEdges() {
@@ -393,6 +403,7 @@ public final class PromiseBoundaryTests extends Checks {
     due("12 of 12", x.cut(12), 12);
     due("7 of 12", x.cut(7), 12);
     due("it does not end", x.rule(5), 0);
+    due("two graphs", x.rule(2), 2);
     due("8 of 7", x.cut(8), BAD);
     due("6 of 7", x.cut(6), 7);
     due("it ends", x.rule(5), 1);
@@ -413,9 +424,10 @@ public final class PromiseBoundaryTests extends Checks {
       due("to " + far, x.set(0, 0, far), BAD);
     }
     due("none came", x.count(1), 3);
+    due("graphs before", x.count(5), 0);
     due("the second of two", x.set(1, 1, 100), 1);
     due("the first is as it was", x.set(1, 0, 100), 1);
-    due("graphs follow", x.call(1, 2), 4);
+    due("graphs follow", x.count(5), 4);
   }
 
   /** Each number near those that are told, of an argument of two values and of one. */
@@ -457,6 +469,32 @@ public final class PromiseBoundaryTests extends Checks {
     due("the first of three", x.spare(), 1);
     due("it is there still", x.rule(1), 4);
     due("and does not end", x.rule(5), 0);
+    spareAmongOthers();
+  }
+
+  /** Calls of many sorts stand behind the one that goes: each is as it was. */
+  private static void spareAmongOthers() {
+    says("The CALL without which all FUNCTIONS END");
+    int[][] sorts = {{0, 0, 101, 110}, {0, 1, 110, 101}, {1, 0, 110, 100}, {2, 0, 100, 0}, {1, 2, 111}, {2, 2, 101}, {1, 1, 100, 111}};
+    for (int at = 0; at <= sorts.length; at++) {
+      FallingCalls x = opened(2, 2, 1);
+      due("they end", x.spare(), NONE);
+      for (int i = 0; i < at; i++) sort(x, sorts[i]);
+      int loop = put(x, 0, 0, 0, 110);
+      for (int i = at; i < sorts.length; i++) sort(x, sorts[i]);
+      due("the loop at " + at, x.spare(), loop);
+      due("all are there", x.rule(1), 8);
+      x.set(loop, 0, 101);
+      due("they end, if it falls", x.spare(), NONE);
+    }
+    FallingCalls x = told("fun 1;fun 1;call 0 1 a;call 0 0 a-1;call 1 0 1;call 0 1 a-1;");
+    due("the second that all loops have", x.spare(), 2);
+    x = told("fun 1;fun 1;fun 1;call 0 1 a;call 1 2 a;call 2 0 1;call 0 2 a;");
+    due("the third", x.spare(), 2);
+  }
+
+  private static void sort(FallingCalls x, int[] fromToArguments) {
+    put(x, fromToArguments[0], fromToArguments[1], java.util.Arrays.copyOfRange(fromToArguments, 2, fromToArguments.length));
   }
 
   private static void spareNone() {
@@ -648,6 +686,7 @@ public final class PromiseBoundaryTests extends Checks {
     x.set(0, 1, 400);
     feed(x, "fun");
     x.sheet(0, 0, 7);
+    due("graphs before", x.rule(2) > 1 ? 1 : 0, 1);
     due("calls", x.back(0), 1);
     due("functions", x.rule(0), 1);
     due("arguments", x.argument(0, 1, 0), 1);
@@ -786,12 +825,13 @@ public final class PromiseBoundaryTests extends Checks {
     for (int missing = 0; missing < 3; missing++) {
       int[] row = {0, 0, 101 + missing, 0, 1, 111 + missing, 9, 9, 9};
       cells(x, 3, java.util.Arrays.copyOf(row, 8 - missing));
+      due("graphs before", x.count(5), missing == 0 ? 0 : 56);
       due("two are whole", x.read(3, 2, 0, 3), 2);
       due("INDEX", x.torn(), 2);
       due("the first came", x.argument(0, 0, 2), 1 + missing);
       due("the second came", x.argument(0, 1, 2), 1 + missing);
     }
-    due("graphs follow", x.call(0, 2), 56);
+    due("graphs follow", x.count(5), 56);
     cells(x, 3, 0, 0, 7);
     due("f 1", x.read(3, 2, 1, 1), 0);
     due("f 3", x.read(3, 2, 3, 13), 0);

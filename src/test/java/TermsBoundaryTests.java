@@ -231,6 +231,14 @@ public final class TermsBoundaryTests extends Checks {
     due("a value of another place", x.run(0, 5, 0, 1), 0);
     due("the second by 2 is of 0", x.run(0, 0, 9, 1), 0);
     due("both are as told", x.run(0, 1, 1, 1), 1);
+    x = opened(2);
+    for (int c = 0; c < 11; c++) put(x, 0, 0, 109, 119);
+    put(x, 0, 0, 101, 110);
+    due("the last call alone", x.run(0, 8, 99, 1), 8);
+    x.cut(0);
+    put(x, 0, 0, 101, 110);
+    put(x, 0, 0, 109, 119);
+    due("the first call alone, whatever the next one is of", x.run(0, 8, 0, 1), 8);
   }
 
   // ---- part 1: the text
@@ -647,6 +655,11 @@ public final class TermsBoundaryTests extends Checks {
     row("by two calls", new int[] {x.fun(0, 3), x.fun(1, 3), x.fun(2, 3)}, 0, 0, 0);
     x.set(2, 0, 101);
     row("it falls", new int[] {x.fun(0, 3), x.fun(1, 3), x.fun(2, 3)}, 1, 1, 1);
+    for (int f = 0; f < 3; f++) {
+      x.cut(0);
+      put(x, f, f, 100);
+      row("one alone does not, by graph 0", new int[] {x.fun(0, 3), x.fun(1, 3), x.fun(2, 3)}, f == 0 ? 0 : 1, f == 1 ? 0 : 1, f == 2 ? 0 : 1);
+    }
   }
 
   private static int[] componentsOf(FallingCalls x) {
