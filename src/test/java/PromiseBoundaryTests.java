@@ -1,3 +1,5 @@
+import java.util.Arrays;
+
 /** Each sentence of promises 1 to 29 that names a boundary case, with a test of its own. */
 public final class PromiseBoundaryTests extends Checks {
   /** Below and above what there may be of anything. */
@@ -43,6 +45,7 @@ public final class PromiseBoundaryTests extends Checks {
     layEdges();
     layLowestBits();
     readEdges();
+    readThreeCellsEach();
     readWhole();
     readRefusedBySet();
     tornEdges();
@@ -491,10 +494,17 @@ public final class PromiseBoundaryTests extends Checks {
     due("the second that all loops have", x.spare(), 2);
     x = told("fun 1;fun 1;fun 1;call 0 1 a;call 1 2 a;call 2 0 1;call 0 2 a;");
     due("the third", x.spare(), 2);
+    x = opened(1, 1);
+    put(x, 0, 1, 100);
+    put(x, 0, 1, 201);
+    put(x, 1, 0, 100);
+    due("not the first, for the second is as it", x.spare(), 2);
+    put(x, 1, 0, 300);
+    due("nor any, for there are two of each", x.spare(), NONE);
   }
 
   private static void sort(FallingCalls x, int[] fromToArguments) {
-    put(x, fromToArguments[0], fromToArguments[1], java.util.Arrays.copyOfRange(fromToArguments, 2, fromToArguments.length));
+    put(x, fromToArguments[0], fromToArguments[1], Arrays.copyOfRange(fromToArguments, 2, fromToArguments.length));
   }
 
   private static void spareNone() {
@@ -819,12 +829,34 @@ public final class PromiseBoundaryTests extends Checks {
     due("its fault", x.torn(), 2);
   }
 
+  private static void readThreeCellsEach() {
+    says("which ARGUMENT, what it is to be are read of a SHEET taken as of a lane, three CELLS each from CELL f on, one behind another as by set(): how many came.");
+    for (int lane = 0; lane < 3; lane++) {
+      for (int f = 0; f < 3; f++) {
+        FallingCalls x = opened(2);
+        put(x, 0, 0, 1, 2);
+        put(x, 0, 0, 3, 4);
+        x.sheet(2, lane, f + 6);
+        int[] row = {1, 0, 119, 0, 1, 101};
+        for (int i = 0; i < 6; i++) x.lay(2, f + i, row[i]);
+        due("two, lane " + lane + " from " + f, x.read(2, lane, f, 2), 2);
+        due("no fault", x.torn(), 0);
+        row("all arguments", new int[] {x.set(0, 0, 0), x.set(0, 1, 0), x.set(1, 0, 0), x.set(1, 1, 0)}, 1, 101, 119, 4);
+        due("the second alone", x.read(2, lane, f + 3, 1), 1);
+        row("all arguments", new int[] {x.set(0, 0, 0), x.set(0, 1, 0), x.set(1, 0, 0), x.set(1, 1, 0)}, 0, 101, 0, 0);
+        due("as of another lane", x.read(2, (lane + 1) % 3, f, 2), 0);
+        due("CAST", x.torn(), 3);
+        due("none came", x.count(1), 4);
+      }
+    }
+  }
+
   private static void readWhole() {
     says("What the machine refuses: those that were whole ahead came (its FAULT is asked by torn()).");
     FallingCalls x = told("fun 2;call 0 0 1 1;");
     for (int missing = 0; missing < 3; missing++) {
       int[] row = {0, 0, 101 + missing, 0, 1, 111 + missing, 9, 9, 9};
-      cells(x, 3, java.util.Arrays.copyOf(row, 8 - missing));
+      cells(x, 3, Arrays.copyOf(row, 8 - missing));
       due("graphs before", x.count(5), missing == 0 ? 0 : 56);
       due("two are whole", x.read(3, 2, 0, 3), 2);
       due("INDEX", x.torn(), 2);

@@ -11,7 +11,8 @@ public final class RefusedTests extends Checks {
   private static final List<Integer> ANSWERS = new ArrayList<>();
 
   public static void main(String[] args) {
-    says("STATE -2 (as told), FULL -3, NONE -4 (there is none), the first that fits; what is refused changes nothing");
+    says("Answers: BAD -1 (a number is not as told, there is no such FUNCTION, CALL, ARGUMENT, GRAPH, IMAGE, SHEET), "
+        + "STATE -2 (as told), FULL -3, NONE -4 (there is none), the first that fits; what is refused changes nothing");
     empty();
     within();
     full();

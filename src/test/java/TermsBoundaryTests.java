@@ -572,8 +572,8 @@ public final class TermsBoundaryTests extends Checks {
   }
 
   /**
-   * Of the 81 codes 75 can come (in the other six a value that stays would have
-   * to fall on one way): with three functions that come to one another 675.
+   * Of the 81 codes 75 can come, whatever the calls are (all of them were tried):
+   * with three functions that come to one another these are 675 graphs.
    */
   private static void mostGraphs() {
     says("what is not among them yet.");
