@@ -1,3 +1,4 @@
+import java.io.IOException;
 import java.lang.management.ManagementFactory;
 import java.lang.reflect.Constructor;
 import java.lang.reflect.Field;
@@ -6,10 +7,12 @@ import java.lang.reflect.Modifier;
 import java.nio.file.Files;
 import java.nio.file.Path;
 import java.util.Arrays;
+import java.util.List;
 import java.util.Set;
 import java.util.TreeSet;
 import java.util.regex.Matcher;
 import java.util.regex.Pattern;
+import java.util.stream.Stream;
 
 /** The public face, rules of the language that can be seen, the room that calls take. */
 public final class FaceTests {
@@ -26,6 +29,7 @@ public final class FaceTests {
     members();
     nested();
     words(Files.readString(SOURCE));
+    once(Path.of("."));
     room();
     System.out.println(wrong == 0 ? "FaceTests: all as due" : "FaceTests: " + wrong + " not as due");
     if (wrong != 0) System.exit(1);
@@ -102,6 +106,15 @@ public final class FaceTests {
     Matcher imports = Pattern.compile("import\\s+([\\w.]+)").matcher(code);
     while (imports.find()) holds("import " + imports.group(1), imports.group(1).equals("java.util.Arrays"));
     holds("signs 1 to 127 alone", source.chars().allMatch(c -> c > 0 && c < 128));
+  }
+
+  /** The program is one file: a copy of it, left behind anywhere in the project, is no part of it and may be wrong. */
+  private static void once(Path project) throws IOException {
+    Path kept = project.resolve(".git");
+    try (Stream<Path> all = Files.walk(project)) {
+      List<Path> copies = all.filter(p -> !p.startsWith(kept) && p.endsWith(SOURCE.getFileName())).toList();
+      holds("one FallingCalls.java, at " + SOURCE + ": " + copies, copies.equals(List.of(project.resolve(SOURCE))));
+    }
   }
 
   /** 512 of the dearest calls of one object make nothing: only the constructor does. */
